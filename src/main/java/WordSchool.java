@@ -79,8 +79,6 @@ public final class WordSchool {
     private final Suite gathered = new Suite();
     private final Pupil pupil = new Pupil();
     private final Known known = new Known();
-    private final Machine leastA = new Machine();
-    private final Machine leastB = new Machine();
     private final Machine made = new Machine();
     private int finding = FINE;
 
@@ -337,7 +335,7 @@ public final class WordSchool {
         if (other == null || !gatherSuite(p, h)) {
             return NONE;
         }
-        return gathered.firstFailure(leastA, other);
+        return gathered.firstFailure(other);
     }
 
     // ---- teachers
@@ -619,15 +617,15 @@ public final class WordSchool {
         return limit > LONGEST ? BEYOND : FINE;
     }
 
-    /** Joins into made; second is looked at only where two machines are joined. */
+    /** Joins into made; where one machine alone is joined, it stands for the second too. */
     private int joinFault(int how, Machine first, Machine second) {
-        if (!chart.makeLeast(first, leastA) || !chart.makeLeast(second, leastB)) {
+        if (!chart.makeLeast(first, joining.first) || !chart.makeLeast(second, joining.second)) {
             return FULL;
         }
-        if (leastA.topAnswer() > 1 || leastB.topAnswer() > 1) {
+        if (joining.first.topAnswer() > 1 || joining.second.topAnswer() > 1) {
             return KIND;
         }
-        joining.begin(how, leastA, leastB);
+        joining.begin(how);
         int most = how >= ROWED ? MOST_SETS : MOST_NODES;
         if (!chart.explore(joining, joining.signs(), most) || chart.groupNodes() > MOST_STATES) {
             return FULL;
@@ -636,16 +634,16 @@ public final class WordSchool {
         return FINE;
     }
 
-    /** Leaves the LEAST machine in leastA and its SUITE in gathered, if there is one. */
+    /** False if the machine at p has no SUITE for h. */
     private boolean gatherSuite(int p, int h) {
         Machine at = machineAt(p);
-        if (at == null || h < 0 || h > SUITE_MIDDLE || !chart.makeLeast(at, leastA)) {
+        if (at == null || h < 0 || h > SUITE_MIDDLE || !chart.makeLeast(at, gathered.least)) {
             return false;
         }
-        if (leastA.n > SUITE_STATES || leastA.k > SUITE_SIGNS) {
+        if (gathered.least.n > SUITE_STATES || gathered.least.k > SUITE_SIGNS) {
             return false;
         }
-        gathered.gather(leastA, h, chart);
+        gathered.gather(h, chart);
         return true;
     }
 
@@ -735,7 +733,7 @@ public final class WordSchool {
         }
 
         boolean hasTake(int s, int a) {
-            return hasState(s) && a >= 0 && a < lengths[s];
+            return s >= 0 && s < n && a >= 0 && a < lengths[s];
         }
 
         int leadOf(int s, int a) {
@@ -799,12 +797,10 @@ public final class WordSchool {
             return top;
         }
 
-        @Override
         int firstKey() {
             return START;
         }
 
-        @Override
         int nextKey(int spot, int sign) {
             int s = spot / COUNTS;
             if (spot < 0 || s >= n || sign < 0 || sign >= lengths[s]) {
@@ -828,7 +824,6 @@ public final class WordSchool {
             }
         }
 
-        @Override
         int answerAt(int spot) {
             return spot >= 0 && spot / COUNTS < n ? answers[spot / COUNTS] : NO_ANSWER;
         }
@@ -975,7 +970,9 @@ public final class WordSchool {
 
         /** Puts nodes into groups; answers how many, one more than MOST_STATES for any greater number. */
         int groupNodes() {
-            Arrays.fill(groupOf, 0, nodes, 0);
+            for (int i = 0; i < nodes; i++) {
+                groupOf[i] = 0;
+            }
             groups = 0;
             // each round but the last makes one group more at least
             for (int round = 0; round <= MOST_STATES; round++) {
@@ -1104,18 +1101,17 @@ public final class WordSchool {
         /** The first SET of AGAIN is like STATE 0 alone, but no SET of STATES has this bit. */
         private static final int FIRST_SET = 1 << SET_BITS;
 
+        final Machine first = new Machine();
+        final Machine second = new Machine();
         private int how;
-        private Machine first;
-        private Machine second;
         private int yesFirst;
         private int yesSecond;
 
-        void begin(int newHow, Machine newFirst, Machine newSecond) {
+        /** Begins when the LEAST machines are in first and second. */
+        void begin(int newHow) {
             how = newHow;
-            first = newFirst;
-            second = newSecond;
-            yesFirst = yesStates(newFirst);
-            yesSecond = yesStates(newSecond);
+            yesFirst = yesStates(first);
+            yesSecond = yesStates(second);
         }
 
         private static int yesStates(Machine of) {
@@ -1132,7 +1128,6 @@ public final class WordSchool {
             return Math.max(first.k, second.k);
         }
 
-        @Override
         int firstKey() {
             switch (how) {
                 case ROWED:
@@ -1146,7 +1141,6 @@ public final class WordSchool {
             }
         }
 
-        @Override
         int nextKey(int key, int sign) {
             int front = key >> SET_BITS;
             int back = key & ALL_STATES;
@@ -1162,7 +1156,6 @@ public final class WordSchool {
             }
         }
 
-        @Override
         int answerAt(int key) {
             return belongs(key, key >> SET_BITS, key & ALL_STATES) ? 1 : 0;
         }
@@ -1324,6 +1317,7 @@ public final class WordSchool {
 
     /** A SUITE: each of its words is a head (first and middle part) with a last part behind it. */
     private static final class Suite {
+        final Machine least = new Machine();
         private int headCount;
         private int middleCount;
         private int lastCount;
@@ -1333,18 +1327,19 @@ public final class WordSchool {
         private final long[] lasts = new long[MOST_LASTS];
         private final long[] room = new long[SUITE_ROOM];
 
-        void gather(Machine least, int h, Chart chart) {
-            gatherMiddles(least.k, h);
-            gatherHeads(least);
-            gatherLasts(least, chart);
+        /** Gathers the SUITE of the machine in least. */
+        void gather(int h, Chart chart) {
+            gatherMiddles(h);
+            gatherHeads();
+            gatherLasts(chart);
         }
 
-        private void gatherMiddles(int k, int h) {
+        private void gatherMiddles(int h) {
             middles[0] = 1;
             middleCount = 1;
             for (int i = 0; i < middleCount && i < MOST_MIDDLES; i++) {
                 boolean grows = Words.lengthOf(middles[i]) < h;
-                for (int a = 0; grows && a < k && middleCount < MOST_MIDDLES; a++) {
+                for (int a = 0; grows && a < least.k && middleCount < MOST_MIDDLES; a++) {
                     middles[middleCount] = 4 * middles[i] + a;
                     middleCount++;
                 }
@@ -1355,7 +1350,7 @@ public final class WordSchool {
          * No head comes twice: one that goes on from an ACCESS word by a SIGN that makes another
          * ACCESS word is a head of that one already, so only the other SIGNS get middle parts.
          */
-        private void gatherHeads(Machine least) {
+        private void gatherHeads() {
             headCount = 0;
             access[0] = 1;
             int reached = 1;
@@ -1387,7 +1382,7 @@ public final class WordSchool {
             }
         }
 
-        private void gatherLasts(Machine least, Chart chart) {
+        private void gatherLasts(Chart chart) {
             lasts[0] = 1;
             lastCount = 1;
             for (int t = 1; t < least.n; t++) {
@@ -1412,7 +1407,9 @@ public final class WordSchool {
         /** A word may come up by several heads: each is put into the room once. */
         int countWords() {
             int slots = roomFor(headCount * lastCount);
-            Arrays.fill(room, 0, slots, 0L);
+            for (int i = 0; i < slots; i++) {
+                room[i] = 0;
+            }
             int many = 0;
             for (int i = 0; i < headCount; i++) {
                 for (int j = 0; j < lastCount; j++) {
@@ -1448,7 +1445,7 @@ public final class WordSchool {
         }
 
         /** The first word of the SUITE that the other machine answers unlike; 0 if there is none. */
-        long firstFailure(Machine least, Machine other) {
+        long firstFailure(Machine other) {
             long first = 0;
             for (int i = 0; i < headCount; i++) {
                 int x = least.runFrom(START, heads[i]);
@@ -1456,7 +1453,7 @@ public final class WordSchool {
                 for (int j = 0; j < lastCount && (x != NOWHERE || y != NOWHERE); j++) {
                     long word = Words.joined(heads[i], lasts[j]);
                     boolean sooner = first == 0 || word < first;
-                    if (sooner && areUnlike(least, x, other, y, lasts[j])) {
+                    if (sooner && areUnlike(x, other, y, lasts[j])) {
                         first = word;
                     }
                 }
@@ -1464,7 +1461,7 @@ public final class WordSchool {
             return first;
         }
 
-        private static boolean areUnlike(Machine least, int x, Machine other, int y, long last) {
+        private boolean areUnlike(int x, Machine other, int y, long last) {
             int heard = least.answerAt(least.runFrom(x, last));
             return heard != other.answerAt(other.runFrom(y, last));
         }
@@ -1744,7 +1741,9 @@ public final class WordSchool {
 
         /** The first TABLE that is unlike this one up to a TAKE; false if there is none. */
         private boolean advanceTable(int top, int n, int cells) {
-            Arrays.fill(table, top + 1, cells, 0);
+            for (int at = top + 1; at < cells; at++) {
+                table[at] = 0;
+            }
             for (int at = top; at >= 0; at--) {
                 if (table[at] < n - 1) {
                     table[at]++;
