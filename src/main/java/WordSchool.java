@@ -1224,6 +1224,8 @@ public final class WordSchool {
     /** Counts words with an ANSWER: row m of ways has, for each spot, how many of m SIGNS get there. */
     private static final class Tally {
         private final long[] ways = new long[(LONGEST + 1) * SPOTS];
+        /** Where each SIGN leads from each spot: it is asked for each length, but found once. */
+        private final int[] steps = new int[SPOTS * SIGNS];
 
         long wordsOfLength(Machine by, int v, int m) {
             fillFirst(by, v);
@@ -1277,6 +1279,9 @@ public final class WordSchool {
             int step = by.spotStep();
             for (int spot = 0; spot < by.n * COUNTS; spot += step) {
                 ways[spot] = by.answerAt(spot) == v ? 1 : 0;
+                for (int a = 0; a < by.k; a++) {
+                    steps[spot * SIGNS + a] = by.nextKey(spot, a);
+                }
             }
         }
 
@@ -1285,7 +1290,7 @@ public final class WordSchool {
             for (int spot = 0; spot < by.n * COUNTS; spot += step) {
                 long sum = 0;
                 for (int a = 0; a < by.k; a++) {
-                    sum += waysFrom(length - 1, by.nextKey(spot, a));
+                    sum += waysFrom(length - 1, steps[spot * SIGNS + a]);
                 }
                 ways[length * SPOTS + spot] = sum;
             }

@@ -67,6 +67,20 @@ public final class KnownTest {
         x.know(1, Due.w("01"));
         due.done("two STATES", x.fewest(15), 2);
         due.machine(15, 1, 2, "710", "201");
+        x.unknow();
+        due.done("know", x.know(1, Due.w("1")), 7);
+        due.done("know", x.know(1, 1), 7);
+        due.done("the first KNOWN word has the greatest SIGN", x.fewest(15), 1);
+        due.machine(15, 1, 2, "700");
+        x.unknow();
+        x.know(1, Due.w("0010"));
+        x.know(1, Due.w("01"));
+        x.know(1, 1);
+        x.know(1, Due.w("00"));
+        // 7 is the answer to the empty word and 00, 2 to 01 and 0010: 0 may stay at STATE 0, then 1 has
+        // to lead to STATE 1, and 0 has to stay there
+        due.done("longer words first", x.fewest(15), 2);
+        due.machine(15, 1, 2, "701", "210");
         due.done("in place of the TEACHER", x.fewest(1), 2);
         due.is("kind(1)", x.kind(1), 1);
         free(x);

@@ -57,6 +57,20 @@ public final class MakingTest {
         x.act(0, 0, 1, 3);
         due.done("COUNTED, ACT 3", x.least(0, 1), 4);
         due.machine(1, 2, 2, "210", "22-", "23-", "2--");
+        due.done("in its own place", x.least(0, 0), 4);
+        due.machine(0, 2, 2, "210", "22-", "23-", "2--");
+        due.is("no ACTS are left", x.answer(0, Due.w("1000")), 2);
+        due.is("no ACTS are left", x.answer(0, Due.w("10000")), 8);
+        due.is("no ACTS are left", x.what(0, 0, 0), -1);
+        due.refused("it is PARTIAL: act", x.act(0, 0, 0, 1), Due.KIND);
+        due.done("it is PARTIAL: row", x.row(0, 3, 2), 2);
+        due.lay(0, 3, 1, "00");
+        due.done("WHOLE in place of COUNTED", x.least(0, 0), 1);
+        due.refused("it is WHOLE: row", x.row(0, 0, 1), Due.KIND);
+        due.refused("it is WHOLE: say", x.say(0, 0, 2), Due.BEYOND);
+        due.lay(0, 3, 2, "200");
+        x.act(0, 0, 0, 1);
+        x.act(0, 0, 1, 3);
     }
 
     private static void leastRefused(WordSchool x) {
@@ -335,6 +349,8 @@ public final class MakingTest {
         due.lay(1, 0, 1, "11", "02", "13", "04", "04");
         due.is("unlike behind 4 SIGNS, h 1", x.passes(0, 1, 1), 0);
         due.is("h 2", x.passes(0, 1, 2), Due.w("0000"));
+        due.lay(2, 1, 1, "71", "70");
+        due.is("the empty word", x.passes(0, 2, 0), 1);
         due.lay(2, 2, 1, "11", "0-");
         due.is("NO ANSWER by the other", x.passes(0, 2, 0), Due.w("00"));
         due.is("NO ANSWER by this one", x.passes(2, 0, 0), Due.w("00"));
