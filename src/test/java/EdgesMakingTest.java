@@ -294,21 +294,56 @@ public final class EdgesMakingTest extends Edges {
         return drawn + with("; say(0, %, 1)", x.call("leads(0, 0, 1)"));
     }
 
-    @Says({"FULL: more than 200 SETS come up (how 3, 4, 5)", "SETS, from a first one on by all rows of SIGNS below K"})
-    void p22_join_moreThan200Sets() {
-        // the seeds were looked for; setsOf counts as the document tells it
+    /** As manyRowed, but by SIGN 2 A has a STATE without TAKES, and B nothing: two SETS more, one of them none at all. */
+    private static String rowedWithNone(int seed) {
+        return "machine(0, 2, 2, 3); say(0, 0, 1); take(0, 0, 2, 1); cut(0, 1)" + with("; machine(1, 0, 12, 2); draw(1, %); say(1, 0, 1)", seed);
+    }
+
+    /** As manyAgain, but by SIGN 2 STATE 0 leads to a STATE without TAKES: two SETS more, one of them none at all. */
+    private static String againWithNone(int seed) {
+        StringBuilder calls = new StringBuilder("machine(0, 2, 12, 3)");
+        for (int s = 1; s < 11; s++) {
+            calls.append(with("; row(0, %, 2)", s));
+        }
+        calls.append(with("; row(0, 0, 2); row(0, 11, 2); draw(0, %)", seed));
+        School x = new School();
+        for (School.Call c : School.parseAll(calls.toString())) {
+            x.call(c);
+        }
+        for (int s = 0; s < 11; s++) {
+            if (s > 1 && x.call("says(0, " + s + ")") > 1) {
+                calls.append(with("; say(0, %, 0)", s));
+            }
+            for (int a = 0; a < 2; a++) {
+                if (x.call(with("leads(0, %, %)", s, a)) == 11) {
+                    calls.append(with("; take(0, %, %, 0)", s, a));
+                }
+            }
+        }
+        return calls + "; row(0, 0, 3); take(0, 0, 0, 0); take(0, 0, 1, 1); take(0, 0, 2, 11); say(0, 0, 1); say(0, 1, 1); cut(0, 11); say(0, 11, 0)";
+    }
+
+    // the seeds of what follows were looked for; setsOf counts as the document tells it
+
+    @Says({"FULL: more than 200 SETS come up (how 3, 4, 5)", "SETS, from a first one on by all rows of SIGNS below K",
+        "how 3: a STATE of A, or none, with some STATES of B (or none): the first one is STATE 0, with STATE 0 of B if STATE 0 of A answers 1; by a SIGN each STATE becomes its TAKE (none, if that is MISSING or not in the ROW), and behind that STATE 0 of B is with them if the one of A (if there is one) answers 1."})
+    void p22_join_setsOfRowed() {
         begin(manyRowed(12, 5117));
         is("SETS", setsOf(3), 200);
         done("join(3, 0, 1, 8)", 1, shows(8, 0, 2, "100"));
         begin(manyRowed(12, 32885));
         is("SETS", setsOf(3), 201);
         refused("join(3, 0, 1, 8)", FULL);
-        begin(manyAgain(10, 4084));
-        is("SETS", setsOf(5), 200);
-        done("join(5, 0, 1, 8)", 1, shows(8, 0, 2, "100"));
-        begin(manyAgain(11, 2025));
-        is("SETS", setsOf(5), 201);
-        refused("join(5, 0, 1, 8)", FULL);
+        begin(rowedWithNone(16972));
+        is("SETS", setsOf(3), 200);
+        done("join(3, 0, 1, 8)", 2, shows(8, 0, 3, "1001", "0111"));
+        begin(rowedWithNone(8347));
+        is("SETS", setsOf(3), 201);
+        refused("join(3, 0, 1, 8)", FULL);
+    }
+
+    @Says({"FULL: more than 200 SETS come up (how 3, 4, 5)", "how 4: some STATES of A (or none): the first one is those that answer 1; by a SIGN it becomes all STATES whose TAKE by that is one of the SET."})
+    void p22_join_setsOfTurned() {
         // words whose third or fourth SIGN is 1: turned round there are 8 or 16 SETS, and as many STATES
         begin(lay(0, 0, 2, "011", "022", "034", "033", "144"));
         is("SETS", setsOf(4), 8);
@@ -316,6 +351,28 @@ public final class EdgesMakingTest extends Edges {
         begin(lay(0, 0, 2, "011", "022", "033", "045", "044", "155"));
         is("SETS", setsOf(4), 16);
         refused("join(4, 0, 1, 8)", FULL);
+        // the SET of none comes up, and is one of them
+        begin(chain(0, 12, 1), chain(1, 13, 1));
+        is("SETS", setsOf(4), 14);
+        done("join(4, 0, 1, 8)", 14);
+        refused("join(4, 1, 0, 8)", FULL);
+    }
+
+    @Says({"FULL: more than 200 SETS come up (how 3, 4, 5)", "how 5: some STATES of A (or none): by a SIGN each becomes its TAKE (none, if that is MISSING), and behind that STATE 0 is with them if one of these answers 1;",
+        "the first one is like STATE 0 alone, but counts as a SET of its own."})
+    void p22_join_setsOfAgain() {
+        begin(manyAgain(10, 4084));
+        is("SETS", setsOf(5), 200);
+        done("join(5, 0, 1, 8)", 1, shows(8, 0, 2, "100"));
+        begin(manyAgain(11, 2025));
+        is("SETS", setsOf(5), 201);
+        refused("join(5, 0, 1, 8)", FULL);
+        begin(againWithNone(24428));
+        is("SETS", setsOf(5), 200);
+        done("join(5, 0, 1, 8)", 2, shows(8, 0, 3, "1001", "0111"));
+        begin(againWithNone(20841));
+        is("SETS", setsOf(5), 201);
+        refused("join(5, 0, 1, 8)", FULL);
     }
 
     /** A LEAST machine, read from the desk. */
@@ -334,6 +391,14 @@ public final class EdgesMakingTest extends Edges {
                     leads[s][a] = (int) x.call(with("leads(%, %, %)", p, s, a));
                 }
             }
+        }
+
+        int signs() {
+            return leads[0].length;
+        }
+
+        int lead(int s, int a) {
+            return a < signs() ? leads[s][a] : -1;
         }
 
         int end(int from, String word) {
@@ -359,7 +424,7 @@ public final class EdgesMakingTest extends Edges {
         List<Group> sets = new ArrayList<>();
         sets.add(firstGroup(how, a));
         for (int i = 0; i < sets.size() && i < 1000; i++) {
-            for (int sign = 0; sign < 2; sign++) {
+            for (int sign = 0; sign < Math.max(a.signs(), b.signs()); sign++) {
                 Group next = nextGroup(how, a, b, sets.get(i), sign);
                 if (!sets.contains(next)) {
                     sets.add(next);
@@ -386,7 +451,7 @@ public final class EdgesMakingTest extends Edges {
         Set<Integer> others = new HashSet<>();
         boolean again = false;
         for (int s = 0; s < b.says.length; s++) {
-            int t = b.leads[s][sign];
+            int t = b.lead(s, sign);
             if (how == 4 && from.others.contains(t)) {
                 others.add(s);
             }
@@ -395,7 +460,7 @@ public final class EdgesMakingTest extends Edges {
                 again |= how == 5 && b.says[t] == 1;
             }
         }
-        int state = how != 3 ? 0 : from.state < 0 ? -1 : a.leads[from.state][sign];
+        int state = how != 3 ? 0 : from.state < 0 ? -1 : a.lead(from.state, sign);
         if (again || how == 3 && state >= 0 && a.says[state] == 1) {
             others.add(0);
         }
