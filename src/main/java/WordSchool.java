@@ -67,8 +67,9 @@ public final class WordSchool {
     private static final int SUITE_MIDDLE = 2;
     private static final int MOST_MIDDLES = 13;
     private static final int MOST_HEADS = 175;
-    private static final int MOST_LASTS = 16;
-    private static final int SUITE_ROOM = 4096;
+    /** Besides the empty one each last part tells STATES apart that none ahead of it does. */
+    private static final int MOST_LASTS = SUITE_STATES;
+    private static final int SUITE_ROOM = 2048;
     private static final int SUITE_SHIFT = 40;
     private static final long LONG_SPREAD = 0x9E3779B97F4A7C15L;
 

@@ -220,6 +220,18 @@ public final class EdgesKnownTest extends Edges {
         done("fewest(8)", 2, shows(8, 1, 1, "71", "30"));
     }
 
+    @Says("it is WHOLE if no ANSWER is above 1, else MOORE.")
+    void p38_fewest_ofItsOwnKind() {
+        begin(HOUSE);
+        for (int to : new int[] {0, 1, 2, 3, 4, 8}) {
+            done("fewest(" + to + ")", 3, with("kind(%) = 1; row(%, 0, 1) = -1; status() = 4; act(%, 0, 0, 0) = -1; status() = 4; say(%, 0, 6) = 0; answer(%, '0^30') = 1; take(%, 0, 0, -1) = -1; status() = 4", to, to, to, to, to, to));
+        }
+        begin(HOUSE, "unknow(); know(5, ''); know(5, '000')");
+        for (int to : new int[] {0, 1, 2, 3, 4, 8}) {
+            done("fewest(" + to + ")", 2, with("kind(%) = 0; row(%, 0, 1) = -1; status() = 4; say(%, 0, 2) = -1; status() = 2", to, to, to));
+        }
+    }
+
     @Says("PLACE to")
     void p38_fewest_place() {
         begin(HOUSE);

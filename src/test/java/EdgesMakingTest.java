@@ -37,6 +37,27 @@ public final class EdgesMakingTest extends Edges {
         done("least(0, 15)", 14, "size(15, 0) = 14; leads(15, 13, 0) = 0; leads(15, 12, 0) = 13; says(15, 13) = 7; kind(15) = 1; say(0, 13, 6) = 0; says(15, 13) = 7");
     }
 
+    @Says("ACT: the LEAST machine of the one at a lies at to.")
+    void p21_least_ofItsOwnKind() {
+        // what lay there leaves neither its KIND nor its ACTS behind
+        begin(HOUSE);
+        done("least(3, 3)", 5, shows(3, 2, 2, "31-", "323", "343", "2--", "3-3"), "answer(3, '000') = 3; answer(3, '0000') = 8; answer(3, '01') = 2; answer(3, '0001') = 2; answer(3, '1') = 8",
+            "count(3, 3, 3) = 1; what(3, 0, 0) = -1; act(3, 0, 0, 1) = -1; status() = 4; row(3, 0, 2) = 2; say(3, 0, 7) = 0; take(3, 1, 0, -1) = 0");
+        done("least(0, 3)", 2, "row(3, 0, 1) = -1; status() = 4; say(3, 0, 2) = -1; status() = 2; take(3, 0, 0, -1) = -1; status() = 4; answer(3, '00') = 0; draw(3, 1) = 0; kind(3) = 0");
+        done("least(1, 2)", 3, "row(2, 0, 1) = -1; status() = 4; say(2, 0, 7) = 0; take(2, 0, 0, -1) = -1; status() = 4");
+        done("least(2, 15)", 3, "row(15, 0, 1) = 1; cut(15, 1) = 0; say(15, 2, 7) = 0; leads(15, 1, 0) = -2");
+        done("least(2, 8)", 3, "row(8, 0, 1) = 1; cut(8, 1) = 0; say(8, 2, 7) = 0; leads(8, 1, 0) = -2");
+    }
+
+    @Says("ACT: the LEAST machine of the one at a lies at to. Answers its n.")
+    void p21_least_asLargeAsCanBe() {
+        // 14 STATES by 4 SIGNS, all told apart: what is put there is ALIKE
+        for (int kind = 0; kind < 4; kind++) {
+            begin(with("machine(0, %, 14, 4); draw(0, %)", kind, kind < 3 ? 1 : 21842));
+            done("least(0, 15)", 14, "differ(0, 15) = 0; size(15, 1) = 4; kind(15) = " + (kind == 0 ? 0 : kind == 3 ? 2 : 1));
+        }
+    }
+
     @Says("MACHINE a")
     void p21_least_machine() {
         begin(HOUSE);
@@ -81,6 +102,24 @@ public final class EdgesMakingTest extends Edges {
         done("join(0, 1, 0, 8)", 4, shows(8, 0, 3, "0112", "0302", "0222", "1112"));
         done("join(0, 0, 0, 0)", 2, shows(0, 0, 2, "010", "110"));
         done("join(0, 0, 1, 3)", 4, "kind(3) = 0; kind(0) = 0; size(0, 0) = 2");
+    }
+
+    /** 14 STATES, none of them YES, that lead on by one SIGN, the last one nowhere; by the other SIGN they stay. */
+    private static String counting(int p, int sign) {
+        StringBuilder calls = new StringBuilder(with("machine(%, 2, 14, 2)", p));
+        for (int s = 0; s < 14; s++) {
+            calls.append(with("; take(%, %, %, %); take(%, %, %, %)", p, s, sign, s < 13 ? s + 1 : -1, p, s, 1 - sign, s));
+        }
+        return calls.toString();
+    }
+
+    @Says({"how 0: it is YES by A and by B", "1: by one of them or both"})
+    void p22_join_allPairs() {
+        // each STATE of one, or none, comes up with each of the other, or none: 225 pairs, and nothing belongs
+        begin(counting(0, 0), counting(1, 1));
+        done("join(0, 0, 1, 8)", 1, shows(8, 0, 2, "000"));
+        done("join(1, 0, 1, 8)", 1, shows(8, 0, 2, "000"));
+        done("join(1, 1, 0, 8)", 1, shows(8, 0, 2, "000"));
     }
 
     @Says("1: by one of them or both")
@@ -174,6 +213,17 @@ public final class EdgesMakingTest extends Edges {
         done("join(1, 0, 1, 8)", 12, showsLine(8, "100010101000", 0));
         begin(lay(0, 1, 2, "021", "011", "122"));
         done("join(1, 0, 0, 8)", 3, shows(8, 0, 2, "012", "111", "022"));
+    }
+
+    @Says("The machine is WHOLE, with that K, and has the fewest STATES")
+    void p22_join_ofItsOwnKind() {
+        begin(HOUSE);
+        for (int to : new int[] {0, 1, 2, 3, 4, 8}) {
+            done(with("join(2, 15, 15, %)", to), 1, with("kind(%) = 0; row(%, 0, 1) = -1; status() = 4; say(%, 0, 2) = -1; status() = 2; say(%, 0, 0) = 0; act(%, 0, 0, 0) = -1; status() = 4; answer(%, '0^30') = 0", to, to, to, to, to, to));
+        }
+        // 14 STATES by 4 SIGNS
+        begin("machine(0, 0, 14, 4); draw(0, 1)");
+        done("join(2, 0, 0, 8)", 14, "size(8, 1) = 4; join(2, 8, 8, 9) = 14; differ(0, 9) = 0; join(0, 0, 8, 10) = 1; join(1, 0, 8, 10) = 1; says(10, 0) = 1");
     }
 
     @Says("BEYOND: how is not 0 to 5")

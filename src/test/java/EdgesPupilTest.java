@@ -190,6 +190,21 @@ public final class EdgesPupilTest extends Edges {
         done("guess(15)", 14, "differ(0, 15) = 0; kind(15) = 1");
     }
 
+    @Says("ACT: a machine as the GUESS lies at to. Answers its n.")
+    void p30_guess_ofItsOwnKind() {
+        begin(HOUSE);
+        for (int to : new int[] {0, 1, 2, 3, 4, 8}) {
+            done("guess(" + to + ")", 2, with("row(%, 0, 1) = -1; status() = 4; say(%, 0, 2) = -1; status() = 2; act(%, 0, 0, 0) = -1; status() = 4; answer(%, '0^30') = 0", to, to, to, to));
+        }
+        begin(PATH, taught(0, 0));
+        done("guess(8)", 1, shows(8, 2, 2, "50-"), "row(8, 0, 1) = 1; say(8, 0, 7) = 0; guess(8) = 1", shows(8, 2, 2, "50-"));
+        // 14 STATES by 4 SIGNS
+        begin("machine(0, 1, 14, 4); draw(0, 1)", taught(0, 0), "exam()");
+        done("guess(8)", 14, "differ(0, 8) = 0; kind(8) = 1; size(8, 1) = 4; exam() = 0");
+        begin("machine(0, 3, 14, 4); draw(0, 21842)", taught(0, 0), "exam(); exam()");
+        done("guess(8)", 14, "differ(0, 8) = 0; kind(8) = 2; size(8, 1) = 4; exam() = 0");
+    }
+
     @Says("MISSING: there is no pupil;")
     void p30_guess_noPupil() {
         begin(FOURS, "teacher(1, 0, 0, 0)");
