@@ -181,6 +181,7 @@ abstract class Edges {
             School x = started();
             x.call("lift(-1)");
             is(ask, x.call(ask), want);
+            is(ask + ", asked again", x.call(ask), want);
             is("status() behind " + ask, x.call("status()"), BEYOND);
             same(ask, Look.at(started(), part), Look.at(x, part));
         }

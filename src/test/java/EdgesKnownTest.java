@@ -166,6 +166,17 @@ public final class EdgesKnownTest extends Edges {
         // 0 stays at STATE 0, as the first TAKE is 0 in the first TABLE; then 1 has to lead to STATE 1
         begin(lay(0, 1, 2, "710", "201"), "teacher(1, 0, 0, 0); know(1, '0010'); know(1, '01'); know(1, ''); know(1, '00')");
         done("fewest(8)", 2, shows(8, 1, 2, "701", "210"));
+        // of STATE 1 the first TAKE has to be 0 again, whatever was tried there
+        begin(lay(0, 0, 3, "0100", "1000"), "teacher(1, 0, 0, 0); know(1, '0'); know(1, '2'); know(1, '00')");
+        done("fewest(8)", 2, shows(8, 0, 3, "0100", "1000"));
+        begin(lay(0, 0, 2, "110", "000"), "teacher(1, 0, 0, 0); know(1, '00'); know(1, '1'); know(1, '0')");
+        done("fewest(8)", 2, shows(8, 0, 2, "110", "000"));
+        // by 0 and then 1 another STATE than by 1: the last TAKE has to be 1, the one ahead of it 0
+        begin(lay(0, 0, 2, "010", "101"), "teacher(1, 0, 0, 0); know(1, '01'); know(1, '1')");
+        done("fewest(8)", 2, shows(8, 0, 2, "010", "101"));
+        // 0 stays; by 1 and by 2 to STATE 1, all of whose TAKES are 0
+        begin(lay(0, 0, 3, "0011", "1000"), "teacher(1, 0, 0, 0); know(1, '12'); know(1, '20'); know(1, '2')");
+        done("fewest(8)", 2, shows(8, 0, 3, "0011", "1000"));
         // two answers, but 1 is answered behind three SIGNS alone: four STATES
         begin(lay(0, 0, 1, "01", "02", "03", "13"), "teacher(1, 0, 0, 0); know(1, '000'); know(1, '00'); know(1, '0'); know(1, '')");
         done("fewest(8)", 4, shows(8, 0, 1, "01", "02", "03", "10"));

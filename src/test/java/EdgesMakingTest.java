@@ -51,9 +51,9 @@ public final class EdgesMakingTest extends Edges {
 
     @Says("ACT: the LEAST machine of the one at a lies at to. Answers its n.")
     void p21_least_asLargeAsCanBe() {
-        // 14 STATES by 4 SIGNS, all told apart: what is put there is ALIKE
+        // 14 STATES by 4 SIGNS, all told apart: what is put there is ALIKE, and has no ACTS of what lay there
         for (int kind = 0; kind < 4; kind++) {
-            begin(with("machine(0, %, 14, 4); draw(0, %)", kind, kind < 3 ? 1 : 21842));
+            begin(with("machine(0, %, 14, 4); draw(0, %); machine(15, 3, 14, 4); draw(15, 5)", kind, kind < 3 ? 1 : 21842));
             done("least(0, 15)", 14, "differ(0, 15) = 0; size(15, 1) = 4; kind(15) = " + (kind == 0 ? 0 : kind == 3 ? 2 : 1));
         }
     }
@@ -578,9 +578,13 @@ public final class EdgesMakingTest extends Edges {
         asks("suite(0, 2)", suiteOf(2));
         asks("suite(0, 1)", suiteOf(1));
         asks("suite(0, 0)", suiteOf(0));
+        // all but the last two STATES have ANSWERS of their own: 0 tells these two apart
+        begin(lay(0, 1, 2, "012", "134", "250", "300", "400", "410"));
+        asks("suite(0, 2)", suiteOf(2));
+        asks("suite(0, 0)", suiteOf(0));
     }
 
-    /** How many words the SUITE of the machine at 0 has, by all of its parts; it has 6 STATES, and k is 3. */
+    /** How many words the SUITE of the machine at 0 has, by all of its parts; it has 6 STATES, none of whose TAKES is MISSING. */
     private long suiteOf(int h) {
         School x = started();
         is("it is LEAST already", x.call("least(0, 1)"), 6);
@@ -588,7 +592,7 @@ public final class EdgesMakingTest extends Edges {
         List<String> words = new ArrayList<>();
         words.add("");
         for (int i = 0; i < words.size() && words.get(i).length() < 6; i++) {
-            for (int a = 0; a < 3; a++) {
+            for (int a = 0; a < least.signs(); a++) {
                 words.add(words.get(i) + a);
             }
         }
@@ -624,7 +628,10 @@ public final class EdgesMakingTest extends Edges {
         Set<String> firsts = new HashSet<>();
         for (String word : words) {
             if (reached.add(least.end(0, word))) {
-                firsts.addAll(List.of(word, word + 0, word + 1, word + 2));
+                firsts.add(word);
+                for (int a = 0; a < least.signs(); a++) {
+                    firsts.add(word + a);
+                }
             }
         }
         return firsts;
@@ -632,7 +639,8 @@ public final class EdgesMakingTest extends Edges {
 
     @Says("Let L be its LEAST machine, and k that of L.")
     void p23_suite_ofTheLeast() {
-        begin(ring(0, 3, 14), ring(1, 0, 14), "machine(2, 2, 1, 4); take(2, 0, 3, -1); machine(3, 2, 3, 4); row(3, 0, 1); take(3, 0, 0, 1); cut(3, 1); draw(3, 7); row(3, 0, 1); take(3, 0, 0, 0); say(3, 0, 1)");
+        // what no row of SIGNS ends at adds neither STATES nor SIGNS
+        begin(ring(0, 3, 14), ring(1, 0, 14), "machine(2, 2, 1, 4); take(2, 0, 3, -1)", lay(3, 2, 4, "10---", "71122", "22222"));
         asks("suite(0, 0)", 2);
         asks("suite(1, 0)", 2);
         asks("suite(2, 0)", 4);

@@ -22,6 +22,21 @@ public final class EdgesPupilTest extends Edges {
         done("learn(4)", 3, "ahead(0) = 1; ahead(1) = 4; ahead(2) = 5; ahead(3) = -1; behind(0) = 1; behind(1) = -1; told() = 0; guesses() = 1; guess(8) = 3", shows(8, 1, 2, "712", "320", "501"));
     }
 
+    @Says({"ACT: the pupil begins anew", "AHEAD and BEHIND have the empty word alone; it CLOSES"})
+    void p27_learn_afterAnother() {
+        // what an earlier pupil had found out is gone: 00 alone is YES by the one teacher, each STATE has its ANSWER by the other
+        String two = lay(0, 0, 1, "01", "02", "12") + "; teacher(1, 0, 0, 0); " + lay(2, 1, 2, "712", "320", "501") + "; teacher(3, 0, 2, 0)";
+        String first = "ahead(0) = ''; ahead(1) = -1; behind(1) = -1; told() = 0; guesses() = 1; exam() = 3; ahead(2) = '00'; behind(1) = '0'; exam() = 0";
+        begin(two);
+        done("learn(1)", 1, first);
+        begin(two, "learn(1); exam()");
+        done("learn(1)", 1, first);
+        begin(two, "learn(3)");
+        done("learn(1)", 1, first);
+        begin(two, "learn(1); exam(); exam()");
+        done("learn(3)", 3, "ahead(1) = '0'; ahead(2) = '1'; ahead(3) = -1; behind(1) = -1; exam() = 0; guess(8) = 3; differ(2, 8) = 0");
+    }
+
     @Says("(and keeps to it, whatever happens to that PLACE)")
     void p27_learn_keepsToTheTeacher() {
         begin(FOURS, taught(1, 3));

@@ -334,6 +334,43 @@ public final class EdgesTermsTest extends Edges {
         }
     }
 
+    /**
+     * Each run of calls, made behind the others on one object, answers as it does on a new one: nothing
+     * is left behind by what was asked or made before.
+     */
+    private void inTurn(String... runs) {
+        School x = started();
+        for (int turn = 0; turn < 2 * runs.length; turn++) {
+            // forwards, then backwards
+            String run = runs[turn < runs.length ? turn : 2 * runs.length - 1 - turn];
+            School fresh = started();
+            for (School.Call c : School.parseAll(run)) {
+                is(c.text + " in turn " + turn, x.call(c), fresh.call(c));
+            }
+        }
+    }
+
+    @Says({"ASKS change nothing, status() neither.", "Each thing is of its own: what is put elsewhere is a new one."})
+    void t_findings_asksInTurn() {
+        begin(pairs(0, 6), "machine(1, 0, 1, 3)", lay(2, 1, 2, "712", "320", "501"), lay(3, 0, 2, "010", "101"), pairs(4, 15), "machine(5, 1, 14, 4); draw(5, 1)", lay(6, 2, 3, "01--", "1-2-", "0--0"));
+        inTurn("suite(1, 0)", "suite(0, 2)", "suite(3, 1)", "suite(1, 2)", "suite(2, 0)", "suite(0, 0)", "suite(6, 1)", "suite(3, 0)", "suite(2, 2)", "suite(1, 1)");
+        inTurn("passes(0, 1, 0)", "passes(1, 3, 2)", "passes(3, 2, 1)", "passes(0, 4, 2)", "passes(6, 1, 1)", "passes(1, 1, 0)", "passes(0, 4, 0)", "passes(3, 3, 2)", "suite(2, 1)", "passes(1, 4, 0)", "passes(2, 2, 0)");
+        inTurn("differ(0, 1)", "differ(5, 5)", "differ(2, 3)", "differ(0, 0)", "differ(6, 3)", "differ(4, 1)", "differ(5, 2)", "suite(0, 1)", "differ(1, 0)", "differ(3, 3)");
+        inTurn("count(5, 1, 30)", "count(0, 0, 5)", "count(4, 0, 14)", "count(1, 0, 30)", "count(4, 0, 15)", "word(5, 1, 99999)", "word(4, 0, 14)", "word(4, 0, 15)", "word(1, 0, 4)", "place(5, '0123 0^26')", "place(4, '0^14')", "place(1, '222')", "place(0, '00')", "word(0, 0, 6)");
+    }
+
+    @Says({"One that is done answers what it says", "Each thing is of its own: what is put elsewhere is a new one."})
+    void t_findings_actsInTurn() {
+        begin(pairs(0, 6), "machine(1, 0, 1, 3)", lay(2, 0, 2, "010", "101"), pairs(3, 15), "machine(4, 0, 14, 4); draw(4, 1)", lay(5, 2, 3, "01--", "1-2-", "0--0"));
+        String look = "kind(15); size(15, 0); size(15, 1); leads(15, 0, 0); leads(15, 0, 1); leads(15, 1, 0); leads(15, 1, 1); says(15, 0); says(15, 1); lift(15); status()";
+        inTurn("least(0, 15); " + look, "least(4, 15); " + look, "least(3, 15); " + look, "least(5, 15); " + look, "least(1, 15); " + look, "least(2, 15); " + look);
+        inTurn("join(0, 2, 5, 15); " + look, "join(3, 2, 2, 15); " + look, "join(4, 5, 0, 15); " + look, "join(5, 5, 0, 15); " + look, "join(2, 4, 0, 15); " + look, "join(1, 2, 5, 15); " + look, "join(3, 4, 4, 15); " + look, "join(3, 1, 5, 15); " + look);
+        String forget = "; unknow()";
+        begin(lay(0, 1, 4, "01222", "13333", "20000", "30000"), "teacher(1, 0, 0, 0)", lay(2, 0, 1, "01", "02", "12"), "teacher(3, 0, 2, 0)");
+        inTurn("know(1, ''); know(1, '3'); fewest(15); " + look + forget, "know(3, ''); know(3, '0'); know(3, '00'); fewest(15); " + look + forget, "know(1, ''); know(1, '3'); know(1, '0'); fewest(15)" + forget,
+            "know(1, '0'); fewest(15); " + look + forget, "know(1, ''); know(1, '0'); know(1, '2'); fewest(15); " + look + forget, "know(3, '00'); fewest(15); " + look + forget);
+    }
+
     // ---- the pupil
 
     /** At 0: YES is a number of SIGNS 0 that is 13, 27, ..; SIGN 1 changes nothing. */
@@ -383,6 +420,17 @@ public final class EdgesTermsTest extends Edges {
         done("learn(1)", 1, "ahead(1) = -1; cell(0, 0, 0) = 8");
         begin(ring(0, 1, 14), "say(0, 1, 1); say(0, 2, 2); say(0, 3, 3); say(0, 4, 4); say(0, 5, 5); say(0, 6, 6); say(0, 7, 7); teacher(1, 0, 0, 0)");
         done("learn(1)", 8, "ahead(7) = '0^7'; ahead(8) = -1; exam() = 9; told() = '0^9'; behind(1) = '0'; exam() = 14; told() = '0^15'; behind(2) = '0^6'; ahead(13) = '0^13'; ahead(14) = -1; exam() = 0");
+    }
+
+    @Says({"To CLOSE is: as long as there are a word of AHEAD and a SIGN below k", "What stands in w behind its first high SIGNS comes to the end of BEHIND; then it CLOSES, and the GUESS is made anew."})
+    void t_close_asManyAsCanBe() {
+        // rows of up to 13 SIGNS have the same ANSWER, longer ones none: each word that is learnt finds one STATE more
+        StringBuilder due = new StringBuilder("guesses() = 1");
+        for (int c = 1; c <= 13; c++) {
+            due.append(with("; exam() = %; told() = '0^14'; behind(%) = '0^%'; ahead(%) = '0^%'; guesses() = %", c + 1, c, 14 - c, c, c, c + 1));
+        }
+        begin(pairs(0, 14), "teacher(1, 0, 0, 0)");
+        done("learn(1)", 1, due.toString(), "exam() = 0; behind(14) = -1; ahead(14) = -1; cell(13, -1, 13) = 8; cell(12, -1, 13) = 0; cell(12, -1, 12) = 8; cell(13, 0, 13) = 8; guess(2) = 14; differ(0, 2) = 0");
     }
 
     @Says({"Behind that the GUESS is made: its STATES are the words of AHEAD, in their order; a STATE's ANSWER is what the teacher answers to its word;",
