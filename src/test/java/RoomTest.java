@@ -1,4 +1,7 @@
 import java.lang.management.ManagementFactory;
+import java.lang.reflect.Array;
+import java.lang.reflect.Field;
+import java.lang.reflect.Modifier;
 
 /** What calls make: all rows are made with the object, and no call makes anything. */
 public final class RoomTest {
@@ -6,7 +9,12 @@ public final class RoomTest {
         (com.sun.management.ThreadMXBean) ManagementFactory.getThreadMXBean();
     private static final long MOST_FOR_AN_OBJECT = 120_000;
     private static final long MOST_FOR_CALLS = 4_000;
+    /** So small that even a run of 512 calls which each make a new object would fit into the room. */
+    private static final long MOST_OBJECTS = 600_000 / 512;
+    private static final long MOST_PARTS = 7_300_000 / 512;
     private static int wrong;
+    private static long objects;
+    private static long parts;
 
     private static long made() {
         return BEAN.getCurrentThreadAllocatedBytes();
@@ -45,15 +53,37 @@ public final class RoomTest {
         }
     }
 
+    /** Counts what an object is made of: objects and arrays, and their fields and elements. */
+    private static void countParts(Object of) throws IllegalAccessException {
+        objects++;
+        if (of.getClass().isArray()) {
+            parts += Array.getLength(of);
+            boolean plain = of.getClass().getComponentType().isPrimitive();
+            for (int i = 0; !plain && i < Array.getLength(of); i++) {
+                countParts(Array.get(of, i));
+            }
+            return;
+        }
+        for (Field field : of.getClass().getDeclaredFields()) {
+            if (!Modifier.isStatic(field.getModifiers())) {
+                parts++;
+                field.setAccessible(true);
+                if (!field.getType().isPrimitive()) {
+                    countParts(field.get(of));
+                }
+            }
+        }
+    }
+
     private static void check(String what, long bytes, long most) {
-        System.out.println("RoomTest: " + what + ": " + bytes + " bytes");
+        System.out.println("RoomTest: " + what + ": " + bytes);
         if (bytes > most) {
             System.out.println("RoomTest: that is more than " + most);
             wrong++;
         }
     }
 
-    public static void main(String[] args) {
+    public static void main(String[] args) throws IllegalAccessException {
         dearCalls(new WordSchool());
         made();
         long first = made();
@@ -61,8 +91,11 @@ public final class RoomTest {
         long second = made();
         dearCalls(x);
         long third = made();
-        check("a new object", second - first, MOST_FOR_AN_OBJECT);
-        check("a run of dear calls", third - second, MOST_FOR_CALLS);
+        countParts(x);
+        check("bytes that a new object takes", second - first, MOST_FOR_AN_OBJECT);
+        check("bytes that a run of dear calls takes", third - second, MOST_FOR_CALLS);
+        check("objects and arrays of an object", objects, MOST_OBJECTS);
+        check("fields and elements of an object", parts, MOST_PARTS);
         if (wrong != 0) {
             System.exit(1);
         }
